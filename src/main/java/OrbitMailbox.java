@@ -58,9 +58,6 @@ public final class OrbitMailbox {
                 || !within(duration, 1, period) || !within(priority, 0, 2)) {
             return INVALID_ARGUMENT;
         }
-        if (satellite.stationCount >= MAX_STATIONS) {
-            return CAPACITY_EXCEEDED;
-        }
         return satellite.admit(period, offset, duration, priority);
     }
 
@@ -107,7 +104,7 @@ public final class OrbitMailbox {
         if (files.hasStoredAt(now)) {
             return NOT_POSSIBLE;
         }
-        if (files.count >= MAX_FILES || files.countExisting(now) >= MAX_EXISTING) {
+        if (files.countExisting(now) >= MAX_EXISTING) {
             return CAPACITY_EXCEEDED;
         }
         return files.put(length, seed, lifetime, now);
@@ -192,10 +189,9 @@ public final class OrbitMailbox {
         if (!opening.knows(file) || opening.bytesOf(file) != null) {
             return NOT_POSSIBLE;
         }
-        if (opening.countOpen() >= MAX_OPEN) {
+        if (!opening.beginFile(file)) {
             return CAPACITY_EXCEEDED;
         }
-        opening.beginFile(file);
         return opening.countOpen();
     }
 
@@ -324,10 +320,9 @@ public final class OrbitMailbox {
         if (!within(character, 32, 126)) {
             return INVALID_ARGUMENT;
         }
-        if (text.length >= MAX_TEXT) {
+        if (!text.append((char) character)) {
             return CAPACITY_EXCEEDED;
         }
-        text.append((char) character);
         return text.length;
     }
 
@@ -597,6 +592,7 @@ public final class OrbitMailbox {
             return existing;
         }
 
+        /** The number of the new file, or that there is no room for it. */
         int put(int length, int seed, int lifetime, int time) {
             if (count >= MAX_FILES) {
                 return CAPACITY_EXCEEDED;
@@ -734,12 +730,15 @@ public final class OrbitMailbox {
             return file == NO_FILE || place < 0 ? null : openBytes[place];
         }
 
-        void beginFile(int file) {
+        /** Answers false if all places are taken. */
+        boolean beginFile(int file) {
             int place = placeOf(NO_FILE);
-            if (place >= 0) {
-                openFiles[place] = file;
-                openBytes[place].clear();
+            if (place < 0) {
+                return false;
             }
+            openFiles[place] = file;
+            openBytes[place].clear();
+            return true;
         }
 
         void endFile(int file) {
@@ -1084,11 +1083,14 @@ public final class OrbitMailbox {
         final Intervals holes = new Intervals();
         private int lastNumber;
 
-        void append(char character) {
-            if (length < MAX_TEXT) {
-                characters[length] = character;
-                length++;
+        /** Answers false if the text is full. */
+        boolean append(char character) {
+            if (length >= MAX_TEXT) {
+                return false;
             }
+            characters[length] = character;
+            length++;
+            return true;
         }
 
         /** Answers whether the text has no fault. */

@@ -49,6 +49,7 @@ public final class PromisesTest {
         requestText();
         requestTextErrors();
         run();
+        runToTheEnd();
         dropped();
         lastFrame();
         lastFrameOfEntries();
@@ -577,6 +578,10 @@ public final class PromisesTest {
         due("receivedByte", m.receivedByte(0, 0, 2), 67);
         due("receivedByte beside", m.receivedByte(0, 0, 3), NONE);
         due("receivedByte 1", m.receivedByte(0, 0, 1), NONE);
+        due("receivedByte 0", m.receivedByte(0, 0, 0), NONE);
+        ask(m, 0, "f0:0;");
+        m.run(1);
+        due("receivedByte 0 then", m.receivedByte(0, 0, 0), 5);
         due("receivedByte 9", m.receivedByte(0, 0, 9), 39);
         due("receivedByte behind the end", m.receivedByte(0, 0, 10), NONE);
         due("receivedByte huge", m.receivedByte(0, 0, HUGE), NONE);
@@ -889,6 +894,9 @@ public final class PromisesTest {
         due("fault of the empty text", m.fault(), 0);
         write(m, "d:0;");
         due("nothing of the old text stays", m.fault(), NONE);
+        write(m, "d:123;");
+        write(m, "d:1");
+        due("not even its digits", m.fault(), 3);
     }
 
     // Promise 29
@@ -1000,6 +1008,23 @@ public final class PromisesTest {
         due("run 1000", m.run(1000), 1001);
         due("time", m.time(), 1001);
         due("idle frames", m.total(2), 1001);
+    }
+
+    // Promise 31: only later calls than the 512th can come so far, so no run that counts does.
+    private static void runToTheEnd() {
+        OrbitMailbox m = watched(0);
+        m.run(999);
+        for (int i = 0; i < 999; i++) {
+            m.run(1000);
+        }
+        due("run beyond the end", m.run(2), FULL);
+        due("run wrong rather than beyond", m.run(1001), BAD);
+        due("time before the end", m.time(), 999999);
+        due("run to the end", m.run(1), 1000000);
+        due("run at the end", m.run(1), FULL);
+        due("idle frames to the end", m.total(2), 1000000);
+        due("requestDirectory at the end", m.requestDirectory(0), 1);
+        due("ticksToEmpty passes the end", m.ticksToEmpty(), 1);
     }
 
     // Requests out of view and for files that are gone, also with the turn
@@ -1213,6 +1238,12 @@ public final class PromisesTest {
         due("the first pass", seldom(16).ticksToComplete(0, 0), 1000);
         due("the second pass is the last in 2000", seldom(32).ticksToComplete(0, 0), 2000);
         due("the third pass is too late", seldom(33).ticksToComplete(0, 0), NONE);
+        OrbitMailbox later = seldom(32);
+        later.run(999);
+        due("at a pass", later.ticksToComplete(0, 0), 1001);
+        later = seldom(48);
+        later.run(999);
+        due("after 2001 ticks", later.ticksToComplete(0, 0), NONE);
         OrbitMailbox m = seldom(32);
         m.setLoss(0, 1000);
         due("with nothing but loss", m.ticksToComplete(0, 0), NONE);
@@ -1224,7 +1255,7 @@ public final class PromisesTest {
     private static void ticksToEmpty() {
         OrbitMailbox m = opened(100, 1000);
         due("empty", m.ticksToEmpty(), 0);
-        m.addStation(6, 0, 3, 1);
+        m.addStation(6, 1, 2, 1);
         m.requestFile(0, 0);
         due("seven frames", m.ticksToEmpty(), 7);
         m.requestDirectory(1);
