@@ -56,6 +56,7 @@ public final class PromisesTest {
         total();
         stationTotal();
         ticksToComplete();
+        ticksToCompleteBehindTurns();
         ticksToCompleteChangesNothing();
         ticksToCompleteLimit();
         ticksToEmpty();
@@ -782,6 +783,11 @@ public final class PromisesTest {
         due("withdraw first", m.withdraw(2), 1);
         due("withdraw last", m.withdraw(1), 0);
         due("queueLength", m.queueLength(), 0);
+        m.store(100, 0, 100);
+        ask(m, 0, "f0:10,20;");
+        m.withdraw(0);
+        m.requestDirectory(1);
+        due("no hole of it stays", m.queued(0, 3), 1);
     }
 
     // Promise 24: the turn goes with the request
@@ -1195,6 +1201,24 @@ public final class PromisesTest {
         due("just before it is gone", just.ticksToComplete(0, 0), 2);
         just.run(1);
         due("too late", just.ticksToComplete(0, 0), NONE);
+    }
+
+    // Promise 36: turns and priorities count in the simulation as they do really
+    private static void ticksToCompleteBehindTurns() {
+        OrbitMailbox m = opened(320, 1000);
+        m.addStation(1, 0, 1, 2);
+        m.requestFile(0, 0);
+        m.run(19);
+        m.withdraw(0);
+        ask(m, 1, "f0:0-199;");
+        due("behind a whole turn", m.ticksToComplete(0, 0), 4);
+        m.run(1);
+        due("behind the rest of it", m.ticksToComplete(0, 0), 3);
+        m.requestFile(0, 0);
+        m.run(2);
+        due("not before", m.completeFiles(0), 0);
+        m.run(1);
+        due("as it comes really", m.completeFiles(0), 1);
     }
 
     // Promise 36: nothing is changed really
