@@ -1,6 +1,9 @@
+import java.util.Arrays;
+
 /** Counts the answers that are not due, and ends the program with 1 if there was one. */
 final class Check {
     private final String name;
+    private String sentence = "";
     private int calls;
     private int wrong;
 
@@ -8,11 +11,22 @@ final class Check {
         this.name = name;
     }
 
+    /** The promise and its sentence that the checks behind this are of. */
+    void of(String promiseAndSentence) {
+        sentence = promiseAndSentence + ": ";
+    }
+
     void due(String what, long got, long want) {
         calls++;
         if (got != want) {
-            wrong++;
-            System.out.println(name + ": " + what + " answered " + got + ", due is " + want);
+            report(what, String.valueOf(got), String.valueOf(want));
+        }
+    }
+
+    void dueAll(String what, int[] got, int... want) {
+        calls++;
+        if (!Arrays.equals(got, want)) {
+            report(what, Arrays.toString(got), Arrays.toString(want));
         }
     }
 
@@ -25,5 +39,10 @@ final class Check {
         if (wrong != 0) {
             System.exit(1);
         }
+    }
+
+    private void report(String what, String got, String want) {
+        wrong++;
+        System.out.println(name + ": " + sentence + what + " answered " + got + ", due is " + want);
     }
 }

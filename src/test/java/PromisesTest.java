@@ -1,11 +1,5 @@
 /** For each promise of the document: ordinary calls, the edges it names, and wrong arguments. */
-public final class PromisesTest {
-    private static final int BAD = OrbitMailbox.INVALID_ARGUMENT;
-    private static final int IMPOSSIBLE = OrbitMailbox.NOT_POSSIBLE;
-    private static final int FULL = OrbitMailbox.CAPACITY_EXCEEDED;
-    private static final int NONE = OrbitMailbox.NOT_FOUND;
-    private static final int HUGE = Integer.MAX_VALUE;
-    private static final int TINY = Integer.MIN_VALUE;
+public final class PromisesTest extends MailboxStates {
     private static final Check check = new Check("PromisesTest");
 
     public static void main(String[] args) {
@@ -49,7 +43,6 @@ public final class PromisesTest {
         requestText();
         requestTextErrors();
         run();
-        runToTheEnd();
         dropped();
         lastFrame();
         lastFrameOfEntries();
@@ -65,42 +58,6 @@ public final class PromisesTest {
 
     private static void due(String what, int got, int want) {
         check.due(what, got, want);
-    }
-
-    /** A satellite with one station that is always in view. */
-    private static OrbitMailbox watched(int priority) {
-        OrbitMailbox m = new OrbitMailbox();
-        m.addStation(1, 0, 1, priority);
-        return m;
-    }
-
-    /** Such a one at time 2, its station having opened file 0 (seed 5). */
-    private static OrbitMailbox opened(int length, int lifetime) {
-        OrbitMailbox m = watched(0);
-        m.store(length, 5, lifetime);
-        m.requestDirectory(0);
-        m.run(1);
-        m.open(0, 0);
-        m.run(1);
-        return m;
-    }
-
-    private static void write(OrbitMailbox m, String text) {
-        m.clearText();
-        for (int i = 0; i < text.length(); i++) {
-            m.type(text.charAt(i));
-        }
-    }
-
-    private static int ask(OrbitMailbox m, int station, String text) {
-        write(m, text);
-        return m.requestText(station);
-    }
-
-    private static int faultOf(String text) {
-        OrbitMailbox m = new OrbitMailbox();
-        write(m, text);
-        return m.fault();
     }
 
     private static void constants() {
@@ -405,18 +362,6 @@ public final class PromisesTest {
         due("covered of an entry between", m.directory(0), 1);
     }
 
-    /** Covers [5k + 1, 5k + 3] for each k: the file stored at 5k keeps the intervals apart. */
-    private static OrbitMailbox coveredApart(int intervals) {
-        OrbitMailbox m = watched(0);
-        for (int k = 0; k < intervals; k++) {
-            m.store(1, 0, 5);
-            m.run(3);
-            ask(m, 0, "d:" + (5 * k + 3) + ";");
-            m.run(2);
-        }
-        return m;
-    }
-
     // Promises 14 and 15: a list has at most 12 intervals
     private static void coveredLimit() {
         OrbitMailbox m = coveredApart(12);
@@ -624,21 +569,9 @@ public final class PromisesTest {
         due("byteHole station -1", m.byteHole(-1, 0, 0), BAD);
     }
 
-    /** The bytes 1, 3, 5, .. of file 0 (320 bytes) received, in the given number of intervals. */
-    private static OrbitMailbox oddBytes() {
-        OrbitMailbox m = opened(320, 1000);
-        ask(m, 0, "f0:1,3,5,7;");
-        m.run(4);
-        ask(m, 0, "f0:9,11,13,15;");
-        m.run(4);
-        ask(m, 0, "f0:17,19,21,23;");
-        m.run(4);
-        return m;
-    }
-
     // Promises 18 to 20, 23 and 35: a list has at most 12 intervals
     private static void byteListLimit() {
-        OrbitMailbox m = oddBytes();
+        OrbitMailbox m = oddBytes(12);
         due("thirteen byte holes", m.byteHole(0, 0, -1), 13);
         due("the last begins", m.byteHole(0, 0, 24), 24);
         due("the last ends", m.byteHole(0, 0, 25), 319);
@@ -659,7 +592,7 @@ public final class PromisesTest {
         due("four holes asked for", m.requestFile(0, 0), 1);
         due("of them", m.queued(0, 3), 4);
         due("bytes in them", m.queued(0, 4), 4);
-        due("an interval that touches is merged", receivedAfter(oddBytes(), "f0:24-30;"), 19);
+        due("an interval that touches is merged", receivedAfter(oddBytes(12), "f0:24-30;"), 19);
     }
 
     private static int receivedAfter(OrbitMailbox m, String text) {
@@ -1016,23 +949,6 @@ public final class PromisesTest {
         due("idle frames", m.total(2), 1001);
     }
 
-    // Promise 31: only later calls than the 512th can come so far, so no run that counts does.
-    private static void runToTheEnd() {
-        OrbitMailbox m = watched(0);
-        m.run(999);
-        for (int i = 0; i < 999; i++) {
-            m.run(1000);
-        }
-        due("run beyond the end", m.run(2), FULL);
-        due("run wrong rather than beyond", m.run(1001), BAD);
-        due("time before the end", m.time(), 999999);
-        due("run to the end", m.run(1), 1000000);
-        due("run at the end", m.run(1), FULL);
-        due("idle frames to the end", m.total(2), 1000000);
-        due("requestDirectory at the end", m.requestDirectory(0), 1);
-        due("ticksToEmpty passes the end", m.ticksToEmpty(), 1);
-    }
-
     // Requests out of view and for files that are gone, also with the turn
     private static void dropped() {
         OrbitMailbox m = new OrbitMailbox();
@@ -1182,7 +1098,7 @@ public final class PromisesTest {
     private static void ticksToComplete() {
         OrbitMailbox m = opened(320, 1000);
         due("all of it", m.ticksToComplete(0, 0), 20);
-        due("holes of one byte first", oddBytes().ticksToComplete(0, 0), 31);
+        due("holes of one byte first", oddBytes(12).ticksToComplete(0, 0), 31);
         m.store(17, 0, 1000);
         due("not open", m.ticksToComplete(0, 1), IMPOSSIBLE);
         due("no file", m.ticksToComplete(0, 2), BAD);

@@ -28,7 +28,7 @@ public final class RoomTest {
             m.addStation(1 + s, s, 1 + s / 2, s % 3);
             m.setLoss(s, 100 * s);
         }
-        for (int round = 0; round < 12; round++) {
+        for (int round = 0; round < 10; round++) {
             m.store(300, round, 60);
             m.run(3);
             for (int s = 0; s < 5; s++) {
