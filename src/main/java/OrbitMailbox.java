@@ -655,10 +655,9 @@ public final class OrbitMailbox {
 
     private static final class Station {
         final int number;
-        // The period is a divisor, so it is never 0, not even before the station is added.
-        int period = 1;
+        int period;
         int offset;
-        int duration = 1;
+        int duration;
         int priority;
         int loss;
         int knownFiles;
@@ -693,14 +692,14 @@ public final class OrbitMailbox {
         }
 
         boolean sees(int time) {
-            return time >= offset && (time - offset) % period < duration;
+            return time >= offset && phaseAt(time) < duration;
         }
 
         int firstSight(int time) {
             if (time < offset) {
                 return offset;
             }
-            int phase = (time - offset) % period;
+            int phase = phaseAt(time);
             return phase < duration ? time : time - phase + period;
         }
 
@@ -774,6 +773,11 @@ public final class OrbitMailbox {
                 knownFiles |= 1 << frame.file;
             }
             times.add(frame.first, frame.last);
+        }
+
+        /** How long before the time, which is at least the offset, a pass last began. */
+        private int phaseAt(int time) {
+            return period > 0 ? (time - offset) % period : 0;
         }
 
         private int placeOf(int file) {
